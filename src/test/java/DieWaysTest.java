@@ -150,6 +150,8 @@ public final class DieWaysTest {
         due("cheapest to it", x.cheapest(0, 1, 15, 0), NONE);
         due("stances in it", x.stances(0, 1, 15), 0);
         due("reach", x.reach(0, 1), 15);
+        due("shortest to it from the very first state", x.shortest(0, 0, 15, 0), NONE);
+        due("ways to it from there", x.ways(0, 0, 15, 0), 0);
         x.group(1, true);
         due("shortest to an open gate", x.shortest(0, 1, 15, 0), 6);
         due("reach with it", x.reach(0, 1), 16);

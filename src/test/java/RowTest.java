@@ -14,6 +14,7 @@ public final class RowTest {
         nextWays();
         nextNone();
         nextBySpread();
+        firstStart();
         CHECKS.end();
     }
 
@@ -196,16 +197,36 @@ public final class RowTest {
     private static void nextBySpread() {
         RollingThings x = new RollingThings();
         x.board(5, 5);
-        for (int way = 0; way < 4; way++) {
+        for (int n = 0; n < 24; n++) {
+            int way = n % 4;
             x.clear();
-            x.row(way, 2);
+            x.row(way, 1 + n / 4);
             x.row((way + 2) % 4, 0);
             for (int back = 0; back < 4; back++) {
                 x.row(back, 0);
                 x.row((back + 2) % 4, 0);
             }
-            // inside the board all WAYS may be done; that way prints 2 and the one against it 5 for all
-            due("next() behind way " + way, x.next(), way % 2 == 0 ? 1 : 0);
+            // inside the board all WAYS may be done; that way prints the same for all, so does the one against it
+            due("next() behind way " + way + " that printed " + (1 + n / 4), x.next(), way % 2 == 0 ? 1 : 0);
         }
+    }
+
+    /** EAST 2 and SOUTH 4 on the first CELL: the START 0 alone. */
+    private static void firstStart() {
+        RollingThings x = new RollingThings();
+        x.board(2, 2);
+        x.row(0, 2);
+        x.row(1, 0);
+        x.row(3, 0);
+        x.row(2, 0);
+        x.row(1, 4);
+        due("starts()", x.starts(), 1);
+        due("start(0)", x.start(0), 0);
+        due("sure(0)", x.sure(0), 2);
+        due("sure(1)", x.sure(1), 3);
+        due("sure(2)", x.sure(2), 0);
+        due("next()", x.next(), 0);
+        x.cell(3, 0, 1);
+        due("next(): the row itself may not be done then", x.next(), NONE);
     }
 }
