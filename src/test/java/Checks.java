@@ -26,6 +26,14 @@ final class Checks {
         return wrong > 0;
     }
 
+    int asked() {
+        return asked;
+    }
+
+    int wrong() {
+        return wrong;
+    }
+
     void end() {
         System.out.println(test + ": " + asked + " asked, " + wrong + " wrong");
         if (wrong > 0 || asked == 0) {
