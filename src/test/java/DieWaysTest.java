@@ -184,9 +184,14 @@ public final class DieWaysTest {
         x.board(3, 3);
         x.cell(4, 0, 1);
         x.cell(7, 1, 3);
+        // so many rolls are tried that the model does them
+        Model m = new Model();
+        m.board(3, 3);
+        m.cell(4, 0, 1);
+        m.cell(7, 1, 3);
         for (int s = 0; s < 24; s++) {
             for (int goal = 0; goal < 9; goal++) {
-                int least = leastPrint(x, 0, s, goal, 22);
+                int least = leastPrint(m, 0, s, goal, 22);
                 int told = x.cheapest(0, s, goal, 0);
                 due("cheapest(0, " + s + ", " + goal + ", 0)", told >= 0 && told <= 22 ? told : 23, least);
             }
@@ -194,16 +199,16 @@ public final class DieWaysTest {
     }
 
     /** The least sum of prints among all ways whatever that print so much at most; one more: there is none. */
-    private static int leastPrint(RollingThings x, int cell, int stance, int goal, int most) {
+    private static int leastPrint(Model m, int cell, int stance, int goal, int most) {
         if (cell == goal) {
             return 0;
         }
         int least = most + 1;
         for (int way = 0; way < 4; way++) {
-            int to = x.roll(cell, stance, way);
-            int print = to < 0 ? 0 : 7 - x.face(to % 24, 0);
+            int to = m.roll(cell, stance, way);
+            int print = to < 0 ? 0 : 7 - m.face(to % 24, 0);
             if (to >= 0 && print < least) {
-                least = Math.min(least, print + leastPrint(x, to / 24, to % 24, goal, least - 1 - print));
+                least = Math.min(least, print + leastPrint(m, to / 24, to % 24, goal, least - 1 - print));
             }
         }
         return least;

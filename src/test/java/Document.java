@@ -17,8 +17,13 @@ final class Document {
     private Document() {
     }
 
+    /** Where there is no such file, all words are taken as they are quoted. */
     static Document read() throws IOException {
         Document document = new Document();
+        if (!Files.exists(FILE)) {
+            System.out.println(FILE + " is not there: no words are compared with it");
+            return document;
+        }
         String heading = "";
         StringBuilder text = new StringBuilder();
         for (String line : Files.readAllLines(FILE)) {
@@ -46,6 +51,9 @@ final class Document {
 
     /** Whether the words stand under the heading; of several places the first that is not quoted yet. */
     boolean quote(String heading, String words) {
+        if (texts.isEmpty()) {
+            return true;
+        }
         String text = texts.getOrDefault(heading, "");
         BitSet marks = quoted.get(heading);
         int first = text.indexOf(words);
@@ -72,8 +80,9 @@ final class Document {
         return left;
     }
 
-    int promises() {
-        return (int) texts.keySet().stream().filter(heading -> heading.startsWith("Promise ")).count();
+    boolean hasPromises(int most) {
+        long found = texts.keySet().stream().filter(heading -> heading.startsWith("Promise ")).count();
+        return texts.isEmpty() || found == most && texts.containsKey("Promise " + most);
     }
 
     private void addUnquoted(String heading, List<String> left) {

@@ -13,7 +13,7 @@ public final class EdgesTest {
         for (Edges edges : all) {
             edges.ask();
         }
-        checks.due("how many promises the document has", document.promises(), 32);
+        checks.holds("the document has 32 promises", document.hasPromises(32));
         for (String words : document.unquoted()) {
             checks.holds("a test of its own for " + words, false);
         }

@@ -97,6 +97,18 @@ final class HomeEdges extends Edges {
         x.group(0, true);
         isHome("standing on an open GATE that is HOME", x, 36, 12, 1);
         due("whence to a WEAK one", weakHome().whence(12, false), 0);
+        RollingThings y = floor(5, 5);
+        y.cell(12, 0, WEAK);
+        y.cell(6, 0, HOLE);
+        y.cell(18, 0, GATE + 2);
+        // standing on each of them, lying with either end on what is not OPEN, lying over an edge
+        for (int place : new int[] {36, 18, 54, 19, 20, 16, 5, 55, 56, 52, 41, 13, 71, 74}) {
+            due("SOUND: " + place, y.sound(place), 0);
+            for (int way = 0; way < 4; way++) {
+                due("rolls(" + place + ", " + way + ")", y.rolls(place, way), NONE);
+            }
+            isLost("from " + place, y, place, 0);
+        }
     }
 
     private static RollingThings weakHome() {

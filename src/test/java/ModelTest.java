@@ -1,7 +1,8 @@
 /** All promises: long runs of calls, each answered by the class and by the model that is written apart from it. */
 public final class ModelTest {
     private static final Checks CHECKS = new Checks("ModelTest");
-    private static final int RUNS = 160, CALLS = 400;
+    /** A run ends where the next step could go beyond the 512 calls of an object: a step makes 52 at most. */
+    private static final int RUNS = 160, CALLS = 512 - 52;
     private static long seed;
 
     public static void main(String[] args) {
@@ -41,11 +42,12 @@ public final class ModelTest {
         Model m = new Model();
         int holes = below(5);
         boolean blockRun = run % 2 == 1;
-        for (int n = 0; n < CALLS; n++) {
+        int first = CHECKS.asked();
+        for (int n = 0; CHECKS.asked() - first < CALLS; n++) {
             if (n == 0 || oneIn(90)) {
                 newBoard(x, m, holes, blockRun);
             }
-            oneCall("run " + run + " call " + n + ": ", x, m, blockRun);
+            oneCall("run " + run + " step " + n + ": ", x, m, blockRun);
         }
     }
 

@@ -47,23 +47,24 @@ public final class RefusalTest {
             x.group(g, was == 1);
             all.add((long) was);
         }
-        for (int i = 0; i < x.starts(); i++) {
+        int fit = x.starts();
+        for (int i = 0; i < fit; i++) {
             all.add((long) x.start(i));
         }
         return all;
     }
 
     private static void asksChangeNothing() {
-        RollingThings x = some();
-        List<Long> before = told(x);
+        List<Long> before = told(some());
         for (int a : ODD) {
             for (int b : ODD) {
+                RollingThings x = some();
                 ask(x, a, b, 5, 0, 0);
                 ask(x, 5, 3, a, b, 1);
                 ask(x, 15, 11, 2, 0, a);
+                CHECKS.holds("asking changes nothing", told(x).equals(before));
             }
         }
-        CHECKS.holds("asking changes nothing", told(x).equals(before));
     }
 
     private static void ask(RollingThings x, int a, int b, int c, int d, int i) {
@@ -96,19 +97,19 @@ public final class RefusalTest {
     }
 
     private static void refusedChangesNothing() {
-        RollingThings x = some();
-        List<Long> before = told(x);
+        List<Long> before = told(some());
         for (int a : ODD) {
             for (int b : ODD) {
-                unchanged(x, before, "board(" + a + ", " + b + ")", a >= 2 && a <= 5 && b >= 2 && b <= 5, 0, a, b, 0);
-                unchanged(x, before, "cell(" + a + ", 0, " + b + ")", isCell(a) && b >= 0 && b <= 8, 1, a, 0, b);
-                unchanged(x, before, "cell(" + a + ", 1, " + b + ")", isCell(a) && b >= 0 && b <= 6, 1, a, 1, b);
-                unchanged(x, before, "cell(1, " + a + ", " + b + ")", a == 0 || a == 1, 1, 1, a, b);
-                unchanged(x, before, "row(" + a + ", " + b + ")", a >= 0 && a <= 3 && b >= 0 && b <= 6, 2, a, b, 0);
+                unchanged(before, "board(" + a + ", " + b + ")", a >= 2 && a <= 5 && b >= 2 && b <= 5, 0, a, b, 0);
+                unchanged(before, "cell(" + a + ", 0, " + b + ")", isCell(a) && b >= 0 && b <= 8, 1, a, 0, b);
+                unchanged(before, "cell(" + a + ", 1, " + b + ")", isCell(a) && b >= 0 && b <= 6, 1, a, 1, b);
+                unchanged(before, "cell(1, " + a + ", " + b + ")", a == 0 || a == 1, 1, 1, a, b);
+                unchanged(before, "row(" + a + ", " + b + ")", a >= 0 && a <= 3 && b >= 0 && b <= 6, 2, a, b, 0);
             }
-            unchanged(x, before, "group(" + a + ", true)", a >= 0 && a <= 2, 3, a, 1, 0);
-            unchanged(x, before, "group(" + a + ", false)", a >= 0 && a <= 2, 3, a, 0, 0);
+            unchanged(before, "group(" + a + ", true)", a >= 0 && a <= 2, 3, a, 1, 0);
+            unchanged(before, "group(" + a + ", false)", a >= 0 && a <= 2, 3, a, 0, 0);
         }
+        RollingThings x = some();
         while (x.count(3) < 20) {
             x.row(2, 0);
         }
@@ -121,10 +122,11 @@ public final class RefusalTest {
         return c >= 0 && c < 16;
     }
 
-    private static void unchanged(RollingThings x, List<Long> before, String call, boolean good, int which, int a, int b, int c) {
+    private static void unchanged(List<Long> before, String call, boolean good, int which, int a, int b, int c) {
         if (good) {
             return;
         }
+        RollingThings x = some();
         int got = which == 0 ? x.board(a, b) : which == 1 ? x.cell(a, b, c) : which == 2 ? x.row(a, b) : x.group(a, b == 1);
         CHECKS.holds(call + " is refused", got == RollingThings.UNKNOWN || got == RollingThings.OUTSIDE);
         CHECKS.holds(call + " changes nothing", told(x).equals(before));
@@ -133,15 +135,17 @@ public final class RefusalTest {
     private static void anyNumbers() {
         for (int w = 2; w <= 5; w++) {
             for (int h = 2; h <= 5; h++) {
-                RollingThings x = new RollingThings();
-                x.board(w, h);
                 for (int a : ODD) {
+                    RollingThings x = new RollingThings();
+                    x.board(w, h);
+                    for (int b : ODD) {
+                        x.cell(b, 0, 1 + (b & 7));
+                        x.cell(b, 1, b & 7);
+                        x.row(b & 3, b);
+                    }
                     ask(x, a, a, a, a, a);
                     ask(x, a, 0, 0, 0, 0);
                     ask(x, 0, 0, a, a, 0);
-                    x.cell(a, 0, 1 + (a & 7));
-                    x.cell(a, 1, a & 7);
-                    x.row(a & 3, a);
                 }
             }
         }

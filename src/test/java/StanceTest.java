@@ -89,14 +89,8 @@ public final class StanceTest {
     }
 
     private static void apart() {
-        RollingThings x = new RollingThings();
-        // holes, marks and the board's ends are nothing to it
-        x.board(2, 2);
-        for (int c = 0; c < 4; c++) {
-            x.cell(c, 0, 1);
-            x.cell(c, 1, 1);
-        }
         for (int s = 0; s < 24; s++) {
+            RollingThings x = shutBoard();
             due("apart(" + s + ", " + s + ")", x.apart(s, s), 0);
             for (int way = 0; way < 4; way++) {
                 due("apart(" + s + ", turn " + way + ")", x.apart(s, x.turn(s, way)), 1);
@@ -107,13 +101,26 @@ public final class StanceTest {
             due("apart of a half", x.apart(s, x.stance(x.face(s, 0), 7 - x.face(s, 1))), 4);
         }
         for (int s = 0; s < 24; s++) {
+            RollingThings y = new RollingThings();
             for (int t = 0; t < 24; t++) {
-                due("apart(" + s + ", " + t + ") is as back", x.apart(s, t), x.apart(t, s));
+                due("apart(" + s + ", " + t + ") is as back", y.apart(s, t), y.apart(t, s));
             }
         }
+        RollingThings x = shutBoard();
         for (int s : new int[] {-1, 24, MIN, MAX}) {
             due("apart(" + s + ", 0)", x.apart(s, 0), UNKNOWN);
             due("apart(0, " + s + ")", x.apart(0, s), UNKNOWN);
         }
+    }
+
+    /** Holes, marks and the board's ends are nothing to apart. */
+    private static RollingThings shutBoard() {
+        RollingThings x = new RollingThings();
+        x.board(2, 2);
+        for (int c = 0; c < 4; c++) {
+            x.cell(c, 0, 1);
+            x.cell(c, 1, 1);
+        }
+        return x;
     }
 }
