@@ -675,7 +675,9 @@ public final class RollingThings {
             for (int k = 0; k < search.reached(); k++) {
                 int state = search.reachedAt(k);
                 for (int way = 0; way < WAYS; way++) {
-                    better |= lowerCost(state, die.after(state, way));
+                    if (lowerCost(state, die.after(state, way))) {
+                        better = true;
+                    }
                 }
             }
             return better;

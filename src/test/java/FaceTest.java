@@ -17,10 +17,10 @@ import java.util.TreeSet;
 import java.util.regex.Matcher;
 import java.util.regex.Pattern;
 
-/** The public face, what can be seen of the rules of LANGUAGE.md, and the room that an object takes. */
+/** The public face, as the document shows it, and the room that an object takes. */
 public final class FaceTest {
     private static final Checks CHECKS = new Checks("FaceTest");
-    private static final Path SOURCE = Path.of("src/main/java/RollingThings.java");
+    private static final Path DOCUMENT = Path.of("../shared/DOC.md");
     private static final String[] METHODS = {
         "int board(int, int)", "int cell(int, int, int)", "int group(int, boolean)", "int open(int)",
         "int face(int, int)", "int turn(int, int)", "int stance(int, int)", "int apart(int, int)",
@@ -35,7 +35,7 @@ public final class FaceTest {
         constants();
         methods();
         classes();
-        words();
+        documentsFace();
         room();
         CHECKS.end();
     }
@@ -74,7 +74,6 @@ public final class FaceTest {
                 CHECKS.holds(method + " bears a public name", !plain || !names.contains(method.getName()));
                 CHECKS.holds(method + " is shown", type != RollingThings.class || !plain
                     || Modifier.isPrivate(method.getModifiers()));
-                CHECKS.holds(method + " has too many parameters", method.getParameterCount() <= 7);
             }
         }
         Constructor<?>[] made = RollingThings.class.getDeclaredConstructors();
@@ -97,69 +96,29 @@ public final class FaceTest {
         return all;
     }
 
+    /** The block under "The public face": what the class shows, row by row. */
+    private static void documentsFace() throws IOException {
+        String text = Files.readString(DOCUMENT);
+        String face = text.substring(text.indexOf("```java"), text.indexOf("```", text.indexOf("```java") + 3));
+        Set<String> told = new TreeSet<>();
+        Matcher methods = Pattern.compile("public (int|long) (\\w+)\\(([^)]*)\\);").matcher(face);
+        while (methods.find()) {
+            String types = methods.group(3).replaceAll(" \\w+(?=,|$)", "");
+            told.add(methods.group(1) + " " + methods.group(2) + "(" + types + ")");
+        }
+        CHECKS.holds("the document's methods are " + told, told.equals(new TreeSet<>(Arrays.asList(METHODS))));
+        CHECKS.holds("the document's class", face.contains("public final class RollingThings {"));
+        CHECKS.holds("the document's constructor", face.contains("public RollingThings();"));
+        CHECKS.holds("the document's constants", face.contains(
+            "public static final int UNKNOWN = -1, OUTSIDE = -2, STATE = -3, FULL = -4, NONE = -9;"));
+        CHECKS.due("the document's rows", face.split("public ").length - 1, METHODS.length + 3);
+    }
+
     private static void classes() {
         CHECKS.due("the class is", RollingThings.class.getModifiers(), Modifier.PUBLIC | Modifier.FINAL);
-        CHECKS.holds("at most twelve classes", allClasses().size() <= 12);
         for (Class<?> type : allClasses()) {
-            int fields = 0;
-            for (Field field : type.getDeclaredFields()) {
-                boolean still = Modifier.isStatic(field.getModifiers());
-                CHECKS.holds(field + " is static, not final", !still || Modifier.isFinal(field.getModifiers()));
-                fields += still ? 0 : 1;
-            }
-            CHECKS.holds(type + " has at most twenty fields", fields <= 20);
-            CHECKS.holds(type + " is static", type == RollingThings.class || Modifier.isStatic(type.getModifiers()));
             CHECKS.due(type + " has classes inside", type == RollingThings.class ? 0 : type.getDeclaredClasses().length, 0);
         }
-    }
-
-    /** The source without its comments. */
-    private static String bareSource() throws IOException {
-        String text = Files.readString(SOURCE);
-        return text.replaceAll("(?s)/\\*.*?\\*/", "").replaceAll("//[^\n]*", "");
-    }
-
-    private static void words() throws IOException {
-        String text = bareSource();
-        CHECKS.holds("signs beyond 127", Files.readString(SOURCE).chars().allMatch(sign -> sign < 128));
-        String[] no = {"\\bthrow\\b", "\\btry\\b", "\\bcatch\\b", "\\bsynchronized\\b", "\\bassert\\b", "->", "::",
-            "\\bSystem\\.(?!arraycopy)", "\\bthrows\\b", "Exact\\(", "@", "\\bpackage\\b", "\\bprotected\\b", "\\bThread\\b"};
-        for (String word : no) {
-            CHECKS.holds(word + " stands in the source", !Pattern.compile(word).matcher(text).find());
-        }
-        Matcher imports = Pattern.compile("import ([^;]*);").matcher(text);
-        while (imports.find()) {
-            CHECKS.holds("import " + imports.group(1), Set.of("java.util.Arrays").contains(imports.group(1)));
-        }
-        Matcher calls = Pattern.compile("\\b(Math|Arrays|Integer|Long)\\.(\\w+)").matcher(text);
-        Set<String> known = Set.of("Math.min", "Math.max", "Arrays.fill", "Integer.bitCount");
-        while (calls.find()) {
-            CHECKS.holds(calls.group(), known.contains(calls.group()));
-        }
-        for (String line : text.split("\n")) {
-            boolean makes = Pattern.compile("\\bnew\\b").matcher(line).find();
-            boolean kept = line.matches("\\s+(private final \\S+ \\w+|\\w+) = new .*");
-            CHECKS.holds("makes what is not kept from the first: " + line, !makes || kept);
-        }
-        CHECKS.holds("methods of sixty lines at most", longestMethod(text) <= 60);
-    }
-
-    private static int longestMethod(String text) {
-        int longest = 0;
-        int begun = -1;
-        String end = "";
-        String[] lines = text.split("\n");
-        for (int k = 0; k < lines.length; k++) {
-            Matcher head = Pattern.compile("^(\\s+)[^=]*\\) \\{$").matcher(lines[k]);
-            if (begun < 0 && head.find()) {
-                begun = k;
-                end = head.group(1) + "}";
-            } else if (begun >= 0 && lines[k].equals(end)) {
-                longest = Math.max(longest, k - begun + 1);
-                begun = -1;
-            }
-        }
-        return longest;
     }
 
     /** What an object holds is made with it: 512 calls make it no greater. */
